@@ -356,6 +356,15 @@ public final class PromisesTest {
     promise = 13;
     due("too far", x.season(1), STATE);
     due("too far and beyond", x.season(21), BEYOND);
+    FridaySlips y = with(VILLAGER, VILLAGER);
+    for (int i = 0; i < 166; i++) y.fridays(60);
+    y.fridays(20);
+    int z = y.count(2);
+    due("too far", y.season(20), STATE);
+    due("z", y.count(2), z);
+    due("friday", y.now(0), 9980);
+    y.season(19);
+    due("friday", y.now(0), 9999);
     promise = 19;
     due("on goes beyond the last friday", x.on(1, 1, 0), x.of(1, PURSE) + 4);
     promise = 12;
@@ -584,6 +593,15 @@ public final class PromisesTest {
     x.swap(1, 3);
     due("nothing is better", x.better(), NONE);
     due("counted", x.status(3), 1);
+    FridaySlips little = with(0, 0, 0, 0);
+    int[] works = {2, 4, 3, 5};
+    for (int p = 0; p < 4; p++) little.set(p, WORK, works[p]);
+    lay(little, 2, 3, 0, 1);
+    // 2 + 4 + 2 + 4 comes in. 0 as 1 and 3 as 2 earn 3 + 4, 1 as 0 and 2 as 3 likewise: 1 more.
+    due("before", little.now(4), 12);
+    due("better by little", little.better(), 3);
+    little.swap(0, 3);
+    due("after", little.now(4), 13);
   }
 
   private static void bestAsAndKind() {
@@ -728,6 +746,16 @@ public final class PromisesTest {
     faultDue(x, "smith shy", 6);
     faultDue(x, "smiths", 0);
     faultDue(x, "smit", 0);
+    faultDue(x, "xmith", 0);
+    faultDue(x, "smithz", 0);
+    faultDue(x, "smitha", 0);
+    faultDue(x, "smith`", 5);
+    faultDue(x, "smith{", 5);
+    faultDue(x, "smith/", 5);
+    faultDue(x, "smith:", 5);
+    faultDue(x, "smith fork 5", 6);
+    faultDue(x, "smith work 5:", 12);
+    faultDue(x, "smith work 5/", 12);
     faultDue(x, " Smith", 1);
     faultDue(x, "smitH", 0);
     faultDue(x, "smith work", 10);

@@ -101,7 +101,7 @@ public final class FridaySlips {
     }
 
     public int set(int person, int what, int v) {
-        if (!today.has(person) || v < 0) {
+        if (!today.has(person)) {
             return finding(BEYOND);
         }
         switch (what) {

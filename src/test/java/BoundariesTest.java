@@ -965,6 +965,19 @@ public final class BoundariesTest {
         refused("swap", BoundariesTest::busy, STATE, v -> v.swap(child, grown));
       }
     }
+    World wrongAges = () -> {
+      FridaySlips v = with(VILLAGER, CHILD, VILLAGER);
+      told(v, "slip 0 is 1");
+      return v;
+    };
+    refused("by their own age, not their slips'", wrongAges, STATE, v -> v.swap(0, 1));
+    refused("by their own age, not their slips'", wrongAges, STATE, v -> v.swap(1, 0));
+    refused("by their own age, not their slips'", wrongAges, STATE, v -> v.swap(1, 2));
+    for (int p = 0; p <= 2; p += 2) {
+      FridaySlips v = wrongAges.made();
+      due("two grown ones, one with a child's slip", v.swap(p, 2 - p), 0);
+      slipsDue(v, 2, 0, 1);
+    }
     sentence(8, "SLIPS of two are swapped: how many have their own then.");
     FridaySlips x = with(0, 1, 2, 3, 4, 3);
     due("swap", x.swap(0, 4), 4);
@@ -1279,6 +1292,8 @@ public final class BoundariesTest {
     for (int p = 0; p < 4; p++) four.set(p, WORK, workOf[p]);
     int[] best = {2, 2, 0, 2};
     for (int p = 0; p < 4; p++) due("less before it and behind it, for " + p, four.bestAs(p), best[p]);
+    due("what the other one earns counts", with(VILLAGER, SMITH, VILLAGER).bestAs(2), 1);
+    due("what the other one earns counts", with(THIEF, VILLAGER, SMITH).bestAs(0), 2);
     sentence(24, "(not itself; a CHILD for a CHILD, a GROWN one for a GROWN one); of several the least.");
     due("the least", with(0, 0, 0).bestAs(0), 1);
     due("the least", with(0, 0, 0).bestAs(1), 0);

@@ -43,6 +43,7 @@ public final class BoundariesTest {
   private static String sentence = "";
 
   public static void main(String[] args) throws IOException {
+    Watchdog.watch();
     findingTerms();
     fridayTerms();
     peopleTerms();
@@ -1363,8 +1364,6 @@ public final class BoundariesTest {
       int more = n;
       World nearly = () -> {
         FridaySlips x = with(0);
-        while (x.count(1) <= 116) x.feed(0x20202020, 4);
-        x.wipe();
         tell(x, " ".repeat(121 - more));
         return x;
       };

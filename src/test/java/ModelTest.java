@@ -27,6 +27,7 @@ public final class ModelTest {
   }
 
   public static void main(String[] args) {
+    Watchdog.watch();
     int wrong = 0;
     for (int run = 0; run < RUNS; run++) {
       String fault = new ModelTest(run).run(run % 4 == 0);

@@ -42,6 +42,7 @@ public final class PromisesTest {
   }
 
   public static void main(String[] args) {
+    Watchdog.watch();
     newObject();
     people();
     earning();

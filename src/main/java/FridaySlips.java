@@ -45,8 +45,8 @@ public final class FridaySlips {
     /** What would be is tried here, so that no call has to make a village of its own. */
     private final Village trial = new Village();
     private final BestLot best = new BestLot();
-    private final Tape tape = new Tape();
-    private final VillageText text = new VillageText(tape);
+    private final VillageText text = new VillageText();
+    private final Tape tape = text.tape;
     private final Sheet[] sheets = new Sheet[SHEETS];
     private final int[] found = new int[FINDINGS];
     private boolean isKept;
@@ -346,7 +346,7 @@ public final class FridaySlips {
         int grown = today.size - children;
         int above = Chances.deranged(grown) * Chances.deranged(children);
         int below = Chances.ordered(grown) * Chances.ordered(children);
-        int common = Chances.commonDivisor(above, below);
+        int common = Math.max(1, Chances.commonDivisor(above, below));
         return (what == 0 ? above : below) / common;
     }
 
@@ -941,8 +941,8 @@ public final class FridaySlips {
             if (k > n) {
                 return 0;
             }
-            int choices = ORDERED[n] / (ORDERED[k] * ORDERED[n - k]);
-            return choices * DERANGED[n - k];
+            int sameChoice = Math.max(1, ORDERED[k] * ORDERED[n - k]);
+            return ORDERED[n] / sameChoice * DERANGED[n - k];
         }
 
         static int commonDivisor(int a, int b) {
@@ -953,7 +953,7 @@ public final class FridaySlips {
                 x = y;
                 y = left;
             }
-            return Math.max(1, x);
+            return x;
         }
     }
 
@@ -981,15 +981,11 @@ public final class FridaySlips {
         private static final int OTHER = 4;
         private static final int TOO_MUCH = 1000;
 
-        private final Tape tape;
+        private final Tape tape = new Tape();
         private int start;
         private int end;
         private int sort;
         private int value;
-
-        VillageText(Tape tape) {
-            this.tape = tape;
-        }
 
         /** How many ITEMS came to the village, or -1 less the FAULT's place. */
         int tell(Village v) {

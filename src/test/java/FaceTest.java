@@ -103,6 +103,7 @@ public final class FaceTest {
     Matcher imports = Pattern.compile("import [^;]*;").matcher(code);
     while (imports.find()) hold(imports.group().equals("import java.util.Arrays;"), imports.group() + " may be");
     rooms(code);
+    divisors(code);
     lengths(text);
   }
 
@@ -112,6 +113,22 @@ public final class FaceTest {
       if (!Pattern.compile("\\bnew\\b").matcher(line).find()) continue;
       boolean early = line.trim().startsWith("private final ") || line.trim().equals("sheets[s] = new Sheet();");
       hold(early, "made with the object: " + line.trim());
+      boolean alone = !line.contains("(") || line.contains("()");
+      hold(alone, "a constructor hands out nothing of the object that it makes: " + line.trim());
+    }
+  }
+
+  /** A divisor is a number, or a name that is held above 0 or looked at in the same line or the one or two before it. */
+  private static void divisors(String code) {
+    String[] lines = code.split("\n");
+    for (int i = 0; i < lines.length; i++) {
+      Matcher divided = Pattern.compile("[/%]=? *(\\w+|\\S)").matcher(lines[i]);
+      while (divided.find()) {
+        String by = divided.group(1);
+        String near = lines[Math.max(0, i - 2)] + lines[Math.max(0, i - 1)] + lines[i];
+        boolean looked = near.contains(by + " != 0") || near.contains(by + " > 0") || near.contains(by + " = Math.max(1, ");
+        hold(by.matches("[1-9]\\d*") || looked, "a divisor is looked at before it divides: " + lines[i].trim());
+      }
     }
   }
 
